@@ -43,6 +43,11 @@ final class CapacityTest {
         rows.tick(10);
         Checks.refused("days past count too", Checks.MEANING, () -> rows.capacity(59));
         rows.capacity(1_000);
+        OrderRows one = withItems(5, 30);
+        one.capacity(30);
+        one.reserve(0);
+        Checks.refused("below one item", Checks.MEANING, () -> one.capacity(29));
+        one.capacity(30);
     }
 
     private static void reserveTakesTheLatestDay() {
@@ -81,6 +86,14 @@ final class CapacityTest {
         Checks.same("the kilos of then stay", rows.reserve(1), 5);
         Checks.same("and no more", rows.reserve(2), 4);
         Checks.refused("turn, whatever changed", Checks.TURN, () -> rows.reserve(0));
+        OrderRows later = withItems(5, 10, 10);
+        later.capacity(20);
+        later.change(0, 4, 20, 2, 0);
+        later.change(0, 5, 9, 2, 0);
+        later.change(1, 5, 9, 2, 0);
+        later.tick(2);
+        Checks.same("the due day of a later day", later.reserve(0), 9);
+        Checks.same("the kilos of a later day", later.reserve(1), 8);
     }
 
     private static void reserveIsRefused() {

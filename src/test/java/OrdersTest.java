@@ -9,6 +9,7 @@ final class OrdersTest {
         joinIsRefused();
         readyLooksAtTheWholeGroup();
         readyIsAsOfToday();
+        aFullHouseIsLookedThrough();
         Checks.finish();
     }
 
@@ -115,7 +116,30 @@ final class OrdersTest {
         rows.weights(item, 0, 9);
         rows.change(item, 3, 4, 3, 0);
         Checks.same("before the change holds", rows.ready(0), true);
-        rows.tick(3);
+        rows.tick(2);
+        Checks.same("on the day before it holds", rows.ready(0), true);
+        rows.tick(1);
         Checks.same("late", rows.ready(0), false);
+    }
+
+    private static void aFullHouseIsLookedThrough() {
+        OrderRows rows = new OrderRows();
+        for (int order = 0; order < 30; order++) {
+            rows.order(0, 5);
+        }
+        for (int item = 0; item < 60; item++) {
+            rows.item(item / 2, 1, 1, 1);
+        }
+        for (int order = 1; order < 30; order++) {
+            Checks.same("join " + order, rows.join(order, 0), order + 1);
+        }
+        Checks.same("all met", rows.ready(29), true);
+        rows.weights(59, 1, 1);
+        Checks.same("the last item is open", rows.ready(0), false);
+        rows.tick(6);
+        Checks.same("the last item is late", rows.late(0), 59);
+        Checks.same("alone", rows.late(1), -1);
+        rows.made(59, 1);
+        Checks.same("the last item is met", rows.ready(0), true);
     }
 }

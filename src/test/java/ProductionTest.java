@@ -90,6 +90,9 @@ final class ProductionTest {
         }
         Checks.same("item 1 before it was made", rows.state(1, 2), 2);
         Checks.same("item 1 from then on", rows.state(1, 3), 3);
+        rows.change(0, 3, 4, 1, 0);
+        Checks.same("before the first was made", rows.state(0, 2), 0);
+        Checks.same("from then on", rows.state(0, 3), 2);
         rows.change(0, 3, 6, 4, 0);
         Checks.same("by the least of that day", rows.state(0, 5), 0);
         rows.change(0, 5, 15, 6, 0);
@@ -157,6 +160,8 @@ final class ProductionTest {
         Checks.same("pushed back", rows.late(2), 4);
         rows.made(1, 5);
         Checks.same("met is not late", rows.late(0), 3);
+        rows.weights(0, 1, 1);
+        Checks.same("the first item", rows.late(0), 0);
         Checks.same("far behind", rows.late(Integer.MAX_VALUE), -1);
     }
 }

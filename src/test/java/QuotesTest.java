@@ -26,6 +26,7 @@ final class QuotesTest {
 
     private static void pricesFollowTheCostRows() {
         OrderRows rows = withItem(50);
+        rows.weights(0, 0, 1);
         Checks.same("without cost rows", priceOfNext(rows), 0);
         rows.costs(100, 7, 3);
         int[][] mostAndCents = {{0, 250}, {1, 257}, {999, 257}, {1_000, 257}, {1_001, 264}, {1_000_000, 7_250}};

@@ -60,6 +60,12 @@ final class SplitTest {
             }
         }
         Checks.refused("the part has no changes yet", Checks.INDEX, () -> rows.history(1, 0, 0));
+        rows.change(0, 3, 1, 4, 0);
+        rows.change(0, 4, 2, 4, 0);
+        rows.split(0, 3);
+        weigh(rows, 2, 3, 3, 3);
+        weigh(rows, 0, 3, 2, 12);
+        weigh(rows, 0, 4, 1, 2);
     }
 
     private static void thePartStandsForItself() {
