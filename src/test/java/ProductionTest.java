@@ -1,13 +1,8 @@
 /** Promises 10, 11, 12 and 23: made, state, rest, late. */
 final class ProductionTest {
     public static void main(String[] args) {
-        madeIsSummedByItem();
-        madeIsRefused();
-        madeHasTwoHundredRows();
         statesFollowTheirOrder();
         statesLookAtTheirDay();
-        statesWithLeastAboveMost();
-        stateIsRefused();
         restIsAsOfToday();
         lateGoesByNumbers();
         Checks.finish();
@@ -20,39 +15,6 @@ final class ProductionTest {
             rows.item(0, 5, 6, 7);
         }
         return rows;
-    }
-
-    private static void madeIsSummedByItem() {
-        OrderRows rows = withItems(2);
-        Checks.same("first", rows.made(0, 1), 1);
-        Checks.same("second", rows.made(0, 1_000_000), 1_000_001);
-        Checks.same("another item", rows.made(1, 3), 3);
-        rows.tick(1);
-        Checks.same("another day", rows.made(0, 9), 1_000_010);
-    }
-
-    private static void madeIsRefused() {
-        OrderRows rows = withItems(1);
-        for (int wrong : new int[] {-1, 1, Integer.MIN_VALUE, Integer.MAX_VALUE}) {
-            Checks.refused("made of item " + wrong, Checks.INDEX, () -> rows.made(wrong, 0));
-        }
-        for (int wrong : new int[] {0, -1, 1_000_001, Integer.MIN_VALUE, Integer.MAX_VALUE}) {
-            Checks.refused("made of kilos " + wrong, Checks.RANGE, () -> rows.made(0, wrong));
-        }
-        Checks.same("refused kilos do not count", rows.made(0, 2), 2);
-    }
-
-    private static void madeHasTwoHundredRows() {
-        OrderRows rows = withItems(2);
-        for (int i = 0; i < 100; i++) {
-            Checks.same("rows of item 0", rows.made(0, 1_000_000), 1_000_000 * (i + 1));
-            Checks.same("rows of item 1", rows.made(1, 2), 2 * (i + 1));
-        }
-        Checks.refused("row 200", Checks.MEANING, () -> rows.made(0, 1));
-        Checks.refused("row 200 of another item", Checks.MEANING, () -> rows.made(1, 1));
-        Checks.refused("row 200, no kilos", Checks.RANGE, () -> rows.made(1, 0));
-        rows.weights(1, 201, 201);
-        Checks.same("a refused row does not count", rows.rest(1), 1);
     }
 
     private static void statesFollowTheirOrder() {
@@ -100,27 +62,6 @@ final class ProductionTest {
         rows.change(0, 5, 15, 0, 0);
         rows.change(0, 4, 20, 15, 0);
         Checks.same("by the most of that day", rows.state(0, 15), 2);
-    }
-
-    private static void statesWithLeastAboveMost() {
-        OrderRows rows = withItems(1);
-        rows.weights(0, 5, 10);
-        rows.change(0, 4, 6, 4, 0);
-        rows.change(0, 3, 9, 2, 0);
-        rows.made(0, 7);
-        Checks.same("over comes first", rows.state(0, 4), 3);
-        Checks.same("open where most is higher", rows.state(0, 3), 0);
-    }
-
-    private static void stateIsRefused() {
-        OrderRows rows = withItems(1);
-        for (int wrong : new int[] {-1, 1, Integer.MIN_VALUE, Integer.MAX_VALUE}) {
-            Checks.refused("state of item " + wrong, Checks.INDEX, () -> rows.state(wrong, -1));
-            Checks.refused("rest of item " + wrong, Checks.INDEX, () -> rows.rest(wrong));
-        }
-        for (int wrong : new int[] {-1, 10_000, Integer.MIN_VALUE, Integer.MAX_VALUE}) {
-            Checks.refused("state on " + wrong, Checks.RANGE, () -> rows.state(0, wrong));
-        }
     }
 
     private static void restIsAsOfToday() {

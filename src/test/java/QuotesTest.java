@@ -3,13 +3,8 @@ final class QuotesTest {
     public static void main(String[] args) {
         pricesFollowTheCostRows();
         pricesKeepToTheirDay();
-        costsAreRefused();
-        quotesAreRefused();
-        quotesAreAtMostSixty();
         quoteAtTellsEachPart();
-        creditIsRefused();
         acceptCountsForTheCustomer();
-        acceptIsRefused();
         Checks.finish();
     }
 
@@ -60,42 +55,6 @@ final class QuotesTest {
         Checks.same("as of the next day", rows.price(second), 1 + 20 + 6_000);
     }
 
-    private static void costsAreRefused() {
-        OrderRows rows = withItem(2);
-        rows.costs(1, 1, 1);
-        for (int wrong : new int[] {-1, 100_001, Integer.MIN_VALUE, Integer.MAX_VALUE}) {
-            Checks.refused("base " + wrong, Checks.RANGE, () -> rows.costs(wrong, 5, 5));
-            Checks.refused("per thousand " + wrong, Checks.RANGE, () -> rows.costs(5, wrong, 5));
-            Checks.refused("per width " + wrong, Checks.RANGE, () -> rows.costs(5, 5, wrong));
-        }
-        Checks.same("refused costs change nothing", priceOfNext(rows), 3);
-    }
-
-    private static void quotesAreRefused() {
-        OrderRows rows = withItem(1);
-        rows.tick(5);
-        for (int wrong : new int[] {-1, 1, Integer.MIN_VALUE, Integer.MAX_VALUE}) {
-            Checks.refused("quote of item " + wrong, Checks.INDEX, () -> rows.quote(wrong, -1));
-        }
-        for (int wrong : new int[] {4, -1, 10_000, Integer.MIN_VALUE, Integer.MAX_VALUE}) {
-            Checks.refused("quote until " + wrong, Checks.RANGE, () -> rows.quote(0, wrong));
-        }
-        Checks.same("until today", rows.quote(0, 5), 0);
-        Checks.same("until the last day", rows.quote(0, 9_999), 1);
-    }
-
-    private static void quotesAreAtMostSixty() {
-        OrderRows rows = withItem(1);
-        for (int i = 0; i < 60; i++) {
-            Checks.same("quote " + i, rows.quote(0, i), i);
-        }
-        Checks.refused("quote 60", Checks.MEANING, () -> rows.quote(0, 5));
-        Checks.refused("quote 60, no item", Checks.INDEX, () -> rows.quote(1, 5));
-        Checks.refused("quote 60, no day", Checks.RANGE, () -> rows.quote(0, 10_000));
-        Checks.same("the last quote", rows.quoteAt(59, 1), 59);
-        Checks.refused("none behind it", Checks.INDEX, () -> rows.quoteAt(60, 1));
-    }
-
     private static void quoteAtTellsEachPart() {
         OrderRows rows = withItem(1);
         rows.item(0, 1, 1, 1);
@@ -116,18 +75,6 @@ final class QuotesTest {
         for (int wrong : new int[] {-1, 3, Integer.MIN_VALUE, Integer.MAX_VALUE}) {
             Checks.refused("quoteAt(0, " + wrong + ")", Checks.INDEX, () -> rows.quoteAt(0, wrong));
         }
-    }
-
-    private static void creditIsRefused() {
-        OrderRows rows = withItem(1);
-        for (int wrong : new int[] {-1, 10, Integer.MIN_VALUE, Integer.MAX_VALUE}) {
-            Checks.refused("credit of " + wrong, Checks.INDEX, () -> rows.credit(wrong, -1));
-        }
-        for (int wrong : new int[] {-1, 2_000_000_001, Integer.MIN_VALUE, Integer.MAX_VALUE}) {
-            Checks.refused("credit " + wrong, Checks.RANGE, () -> rows.credit(2, wrong));
-        }
-        rows.credit(0, 0);
-        rows.credit(9, 2_000_000_000);
     }
 
     private static void acceptCountsForTheCustomer() {
@@ -155,26 +102,5 @@ final class QuotesTest {
         Checks.same("another customer's own sum", rows.accept(4), 100_000);
         rows.credit(2, 300_000);
         Checks.same("more credit", rows.accept(1), 300_000);
-    }
-
-    private static void acceptIsRefused() {
-        OrderRows rows = withItem(100_000);
-        rows.costs(0, 0, 100_000);
-        rows.credit(2, 2_000_000_000);
-        rows.quote(0, 5);
-        Checks.refused("a price beyond an int", Checks.MEANING, () -> rows.accept(0));
-        rows.costs(1, 0, 0);
-        rows.quote(0, 5);
-        rows.quote(0, 5);
-        rows.quote(0, 6);
-        rows.tick(5);
-        Checks.same("on its last day", rows.accept(1), 1);
-        Checks.refused("twice", Checks.TURN, () -> rows.accept(1));
-        rows.tick(1);
-        Checks.refused("its day is past", Checks.TURN, () -> rows.accept(2));
-        Checks.refused("past, ahead of the credit", Checks.TURN, () -> rows.accept(0));
-        Checks.same("its day is today", rows.accept(3), 2);
-        rows.credit(2, 0);
-        Checks.refused("twice, ahead of the credit", Checks.TURN, () -> rows.accept(3));
     }
 }

@@ -4,8 +4,6 @@ final class SplitTest {
         kilosComeOffMostAndLeast();
         thePartHasTheFieldsOfToday();
         thePartStandsForItself();
-        splitIsRefused();
-        splitNeedsRoom();
         Checks.finish();
     }
 
@@ -84,43 +82,5 @@ final class SplitTest {
         Checks.same("an item of another order", rows.split(2, 1), 3);
         Checks.same("its part is not of order 0", rows.ready(0), true);
         Checks.same("its part is of order 1", rows.ready(1), false);
-    }
-
-    private static void splitIsRefused() {
-        OrderRows rows = withItem(10, 20);
-        for (int wrong : new int[] {-1, 1, Integer.MIN_VALUE, Integer.MAX_VALUE}) {
-            Checks.refused("split of item " + wrong, Checks.INDEX, () -> rows.split(wrong, 0));
-        }
-        for (int wrong : new int[] {0, -1, 21, Integer.MIN_VALUE, Integer.MAX_VALUE}) {
-            Checks.refused("split of kilos " + wrong, Checks.RANGE, () -> rows.split(0, wrong));
-        }
-        rows.change(0, 4, 30, 1, 0);
-        Checks.refused("by the most of tomorrow", Checks.RANGE, () -> rows.split(0, 21));
-        rows.made(0, 1);
-        Checks.refused("something was made", Checks.TURN, () -> rows.split(0, 1));
-        Checks.refused("turn ahead of range", Checks.TURN, () -> rows.split(0, 0));
-        Checks.same("refused splits take no number", rows.item(0, 1, 1, 1), 1);
-    }
-
-    private static void splitNeedsRoom() {
-        OrderRows rows = withItem(10, 20);
-        for (int i = 0; i < 16; i++) {
-            rows.change(0, 0, 5, 0, 0);
-        }
-        Checks.same("split after 18 changes", rows.split(0, 1), 1);
-        Checks.refused("split after 20 changes", Checks.MEANING, () -> rows.split(0, 1));
-        rows.weights(1, 5, 9);
-        for (int i = 0; i < 17; i++) {
-            rows.change(1, 0, 5, 0, 0);
-        }
-        Checks.refused("split after 19 changes", Checks.MEANING, () -> rows.split(1, 1));
-        Checks.refused("range ahead of meaning", Checks.RANGE, () -> rows.split(1, 10));
-        for (int i = 2; i < 59; i++) {
-            rows.item(0, 1, 1, 1);
-        }
-        rows.weights(58, 0, 5);
-        Checks.same("the last item", rows.split(58, 1), 59);
-        Checks.refused("no room for items", Checks.MEANING, () -> rows.split(58, 1));
-        Checks.same("a refused split changes nothing", rows.field(58, 4, 0), 4);
     }
 }
