@@ -58,12 +58,12 @@ public final class OrderRows {
         needIndex(orders.has(order));
         needRange(isSize(thick) && isSize(width) && isSize(length));
         needMeaning(items.count < MOST_ITEMS);
-        int made = items.add(order);
-        items.begin(made, THICK, thick);
-        items.begin(made, WIDTH, width);
-        items.begin(made, LENGTH, length);
-        items.begin(made, DUE, orders.due[order]);
-        return made;
+        int number = items.add(order);
+        items.begin(number, THICK, thick);
+        items.begin(number, WIDTH, width);
+        items.begin(number, LENGTH, length);
+        items.begin(number, DUE, orders.due[order]);
+        return number;
     }
 
     public void weights(int item, int least, int most)

@@ -4,6 +4,7 @@ final class CapacityTest {
         capacityKeepsWhatIsReserved();
         reserveTakesTheLatestDay();
         reserveGoesNoFurtherThanToday();
+        aPartReservesForItself();
         Checks.finish();
     }
 
@@ -59,5 +60,15 @@ final class CapacityTest {
         Checks.refused("0 kilos, the due day is past", Checks.MEANING, () -> rows.reserve(4));
         rows.change(2, 5, 6, 0, 0);
         Checks.same("due today", rows.reserve(2), 6);
+    }
+
+    private static void aPartReservesForItself() {
+        OrderRows rows = withItems(5, 60);
+        rows.capacity(60);
+        rows.reserve(0);
+        rows.split(0, 20);
+        Checks.refused("the item keeps its 60 kilos on day 5", Checks.MEANING, () -> rows.capacity(59));
+        Checks.same("the part is not reserved with it", rows.reserve(1), 4);
+        Checks.refused("the item is still reserved", Checks.TURN, () -> rows.reserve(0));
     }
 }
